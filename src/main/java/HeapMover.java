@@ -19,7 +19,7 @@ public final class HeapMover {
 
   /** No refusal: every refusal is below 0. */
   private static final int FINE = 0;
-  private static final int NO_HEIGHT = Integer.MIN_VALUE;
+  private static final int NO_HEIGHT = -2147483648;
 
   /** Above every sum of lengths, and small enough that two of them can be added. */
   private static final int NO_WAY = 1000000;
@@ -355,7 +355,7 @@ public final class HeapMover {
     if (plannedFrom == a && plannedTo == b) {
       return;
     }
-    planner.make(land, mover, heaps.amounts[a], heaps.amounts[b]);
+    planner.make(land, mover, heaps.amounts[a], heaps.amounts[b], heaps.total(a));
     plannedFrom = a;
     plannedTo = b;
   }
@@ -432,10 +432,9 @@ public final class HeapMover {
       return made;
     }
 
-    /** What was told of the place has been taken back before: changes go last one first. */
+    /** Its roads, gate and amounts have gone before it, as changes are taken back last one first. */
     void dropPlace() {
       places--;
-      measure();
     }
 
     int addRoad(int u, int v, int length) {
@@ -808,11 +807,7 @@ public final class HeapMover {
     private final int[] columnFrom = new int[MOST_PLACES];
     private final int[] columns = new int[MOST_PLACES];
 
-    void make(Land land, Mover mover, int[] have, int[] wanted) {
-      int total = 0;
-      for (int u = 0; u < land.places; u++) {
-        total += have[u];
-      }
+    void make(Land land, Mover mover, int[] have, int[] wanted, int total) {
       mover.cheapest(land, have, wanted, total);
       takeGoods(land.places, mover.network, have, wanted);
       raiseHeights(land);
@@ -939,36 +934,27 @@ public final class HeapMover {
       return reached;
     }
 
+    /** Goes back along the latest ring; each column that a row was come to from was come to itself. */
     private void turnRing(int u, int v) {
       int amount = ringAmount(u, v);
       int row = u;
-      for (int step = 0; step < MOST_PLACES; step++) {
-        int column = rowFrom[row];
-        if (column == NONE) {
-          return;
-        }
+      int column = rowFrom[u];
+      for (int step = 0; step < MOST_PLACES && column != NONE; step++) {
         goods[row][column] -= amount;
         row = columnFrom[column];
         goods[row][column] += amount;
-        if (column == v) {
-          return;
-        }
+        column = column == v ? NONE : rowFrom[row];
       }
     }
 
     private int ringAmount(int u, int v) {
       int amount = MOST_AMOUNT;
       int row = u;
-      for (int step = 0; step < MOST_PLACES; step++) {
-        int column = rowFrom[row];
-        if (column == NONE) {
-          return 0;
-        }
+      int column = rowFrom[u];
+      for (int step = 0; step < MOST_PLACES && column != NONE; step++) {
         amount = Math.min(amount, goods[row][column]);
-        if (column == v) {
-          return amount;
-        }
         row = columnFrom[column];
+        column = column == v ? NONE : rowFrom[row];
       }
       return amount;
     }

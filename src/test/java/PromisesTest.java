@@ -1,3 +1,8 @@
+import java.util.ArrayList;
+import java.util.Collections;
+import java.util.List;
+import java.util.Random;
+
 /** One method for each promise: ordinary inputs, the edges that the document names, wrong inputs. */
 public final class PromisesTest {
   private static final int NONE = HeapMover.NONE;
@@ -43,6 +48,7 @@ public final class PromisesTest {
     promise24Judge();
     promise25Beside();
     promise26Count();
+    ringsOfPlaces();
     refusedInOrder();
     greatestNumbers();
     CHECK.end();
@@ -471,6 +477,11 @@ public final class PromisesTest {
     due("far of other sums", x.far(0, 1), NOT);
     x.place();
     due("far, not joined", x.far(0, 0), NOT);
+    HeapMover y = line(10, 1);
+    fill(y, 0, 1, 1, 1, 1, 1, 1, 1, 1, 1, 1000);
+    fill(y, 1, 1000, 1, 1, 1, 1, 1, 1, 1, 1, 1);
+    due("far, every pair used", y.far(0, 1), 9);
+    due("shown, every pair used", y.shown(0, 1, 9), 1);
   }
 
   private static void promise18Shown() {
@@ -681,6 +692,59 @@ public final class PromisesTest {
     HeapMover y = new HeapMover();
     y.place();
     due("count(5) of one place", y.count(5), 1);
+  }
+
+  /**
+   * Places around a ring, goods lying at each second one: there are just two cheapest plans, all
+   * goods going forth or all going back, and it depends on the places' numbers which is the first.
+   */
+  private static void ringsOfPlaces() {
+    Random random = new Random(7);
+    for (int turn = 0; turn < 2000; turn++) {
+      int places = 4 + 2 * random.nextInt(4);
+      List<Integer> around = new ArrayList<>();
+      for (int v = 0; v < places; v++) {
+        around.add(v);
+      }
+      Collections.shuffle(around, random);
+      ringOfPlaces(around, 1 + random.nextInt(1000));
+    }
+  }
+
+  private static void ringOfPlaces(List<Integer> around, int amount) {
+    int places = around.size();
+    HeapMover x = new HeapMover();
+    for (int v = 0; v < places; v++) {
+      x.place();
+    }
+    x.heap();
+    x.heap();
+    int[] forth = new int[places];
+    int[] back = new int[places];
+    for (int i = 0; i < places; i++) {
+      int v = around.get(i);
+      forth[v] = around.get((i + 1) % places);
+      back[v] = around.get((i + places - 1) % places);
+      x.road(v, forth[v], 3);
+      x.set(i % 2, v, amount);
+    }
+    boolean[] wanted = new boolean[places];
+    for (int i = 1; i < places; i += 2) {
+      wanted[around.get(i)] = true;
+    }
+    int least = 0;
+    while (wanted[least]) {
+      least++;
+    }
+    int[] first = forth[least] < back[least] ? forth : back;
+    for (int u = 0; u < places; u++) {
+      for (int v = 0; v < places; v++) {
+        int goods = !wanted[u] && first[u] == v ? amount : 0;
+        due("around " + around + ", plan " + u + " " + v, x.plan(0, 1, u, v), goods);
+      }
+    }
+    due("around " + around + ", alone", x.alone(0, 1), 0);
+    due("around " + around + ", least", x.least(0, 1), 3 * amount * (places / 2));
   }
 
   private static void refusedInOrder() {
