@@ -54,26 +54,6 @@ public final class PromisesTest {
     CHECK.end();
   }
 
-  /** Places 0 .. n - 1 in a line, each two neighbours the same length apart, and two heaps. */
-  private static HeapMover line(int places, int length) {
-    HeapMover x = new HeapMover();
-    for (int v = 0; v < places; v++) {
-      x.place();
-    }
-    for (int v = 1; v < places; v++) {
-      x.road(v - 1, v, length);
-    }
-    x.heap();
-    x.heap();
-    return x;
-  }
-
-  private static void fill(HeapMover x, int heap, int... amounts) {
-    for (int v = 0; v < amounts.length; v++) {
-      x.set(heap, v, amounts[v]);
-    }
-  }
-
   private static void duePlan(HeapMover x, int[][] want) {
     for (int u = 0; u < want.length; u++) {
       for (int v = 0; v < want.length; v++) {
@@ -276,7 +256,7 @@ public final class PromisesTest {
   }
 
   private static void promise7UndoAndDraft() {
-    HeapMover x = line(2, 1);
+    HeapMover x = Worlds.line(2, 1);
     x.place();
     x.draft(0, 0, 1);
     x.draft(2, 0, 2);
@@ -298,7 +278,7 @@ public final class PromisesTest {
   }
 
   private static void promise8Apart() {
-    HeapMover x = line(3, 10);
+    HeapMover x = Worlds.line(3, 10);
     x.place();
     due("apart(3, 3)", x.apart(3, 3), 0);
     due("apart(0, 3)", x.apart(0, 3), NONE);
@@ -309,12 +289,12 @@ public final class PromisesTest {
     due("apart(0, 4)", x.apart(0, 4), UNKNOWN);
     due("apart(-1, 0)", x.apart(-1, 0), UNKNOWN);
     due("apart(4, 4)", x.apart(4, 4), UNKNOWN);
-    HeapMover longest = line(10, 1000);
+    HeapMover longest = Worlds.line(10, 1000);
     due("apart(0, 9)", longest.apart(0, 9), 9000);
   }
 
   private static void promise9Next() {
-    HeapMover x = line(5, 1);
+    HeapMover x = Worlds.line(5, 1);
     x.road(0, 3, 2);
     x.road(3, 1, 1);
     due("next, two ways alike", x.next(0, 3), 1);
@@ -327,13 +307,13 @@ public final class PromisesTest {
     x.place();
     due("next to where no way is", x.next(0, 5), NONE);
     due("next from where no way is", x.next(5, 0), NONE);
-    HeapMover y = line(2, 9);
+    HeapMover y = Worlds.line(2, 9);
     y.road(0, 1, 4);
     due("next by the shorter of two roads", y.next(0, 1), 1);
   }
 
   private static void promise10Amount() {
-    HeapMover x = line(2, 1);
+    HeapMover x = Worlds.line(2, 1);
     x.set(1, 0, 12);
     due("amount(1, 0)", x.amount(1, 0), 12);
     due("amount(0, 0)", x.amount(0, 0), 0);
@@ -346,7 +326,7 @@ public final class PromisesTest {
   }
 
   private static void promise11Sum() {
-    HeapMover x = line(10, 1);
+    HeapMover x = Worlds.line(10, 1);
     for (int v = 0; v < 10; v++) {
       x.set(1, v, 1000);
     }
@@ -359,9 +339,9 @@ public final class PromisesTest {
   }
 
   private static void promise12Least() {
-    HeapMover x = line(4, 3);
-    fill(x, 0, 5, 0, 1, 0);
-    fill(x, 1, 0, 2, 0, 4);
+    HeapMover x = Worlds.line(4, 3);
+    Worlds.fill(x, 0, 5, 0, 1, 0);
+    Worlds.fill(x, 1, 0, 2, 0, 4);
     due("least(0, 1)", x.least(0, 1), 2 * 3 + 3 * 9 + 3);
     due("least(1, 0)", x.least(1, 0), 36);
     due("least(0, 0)", x.least(0, 0), 0);
@@ -376,16 +356,16 @@ public final class PromisesTest {
   }
 
   private static void promise13Plan() {
-    HeapMover x = line(3, 1);
-    fill(x, 0, 1, 1, 0);
-    fill(x, 1, 0, 1, 1);
+    HeapMover x = Worlds.line(3, 1);
+    Worlds.fill(x, 0, 1, 1, 0);
+    Worlds.fill(x, 1, 0, 1, 1);
     // 0 to 2 and 1 staying costs as much; G(0, 1) comes first.
     duePlan(x, new int[][] {{0, 1, 0}, {0, 0, 1}, {0, 0, 0}});
-    fill(x, 0, 2, 1, 0);
-    fill(x, 1, 1, 1, 1);
+    Worlds.fill(x, 0, 2, 1, 0);
+    Worlds.fill(x, 1, 1, 1, 1);
     duePlan(x, new int[][] {{1, 1, 0}, {0, 0, 1}, {0, 0, 0}});
-    fill(x, 0, 0, 1, 2);
-    fill(x, 1, 2, 1, 0);
+    Worlds.fill(x, 0, 0, 1, 2);
+    Worlds.fill(x, 1, 2, 1, 0);
     duePlan(x, new int[][] {{0, 0, 0}, {1, 0, 0}, {1, 1, 0}});
     due("plan(0, 1, 0, 3)", x.plan(0, 1, 0, 3), UNKNOWN);
     due("plan(0, 1, -1, 0)", x.plan(0, 1, -1, 0), UNKNOWN);
@@ -401,13 +381,13 @@ public final class PromisesTest {
   }
 
   private static void promise14Alone() {
-    HeapMover x = line(3, 1);
+    HeapMover x = Worlds.line(3, 1);
     due("alone of nothing", x.alone(0, 1), 1);
-    fill(x, 0, 1, 1, 0);
-    fill(x, 1, 0, 1, 1);
+    Worlds.fill(x, 0, 1, 1, 0);
+    Worlds.fill(x, 1, 0, 1, 1);
     due("alone, two ways", x.alone(0, 1), 0);
     due("alone(0, 0)", x.alone(0, 0), 1);
-    fill(x, 0, 2, 0, 0);
+    Worlds.fill(x, 0, 2, 0, 0);
     due("alone, one way", x.alone(0, 1), 1);
     due("alone(0, 2)", x.alone(0, 2), UNKNOWN);
     x.set(0, 1, 1);
@@ -417,14 +397,14 @@ public final class PromisesTest {
   }
 
   private static void promise15Height() {
-    HeapMover x = line(4, 2);
-    fill(x, 0, 0, 3, 0, 0);
-    fill(x, 1, 0, 0, 3, 0);
+    HeapMover x = Worlds.line(4, 2);
+    Worlds.fill(x, 0, 0, 3, 0, 0);
+    Worlds.fill(x, 1, 0, 0, 3, 0);
     int[] want = {0, 2, 0, 2};
     for (int v = 0; v < 4; v++) {
       due("height(0, 1, " + v + ")", x.height(0, 1, v), want[v]);
     }
-    fill(x, 1, 3, 0, 0, 0);
+    Worlds.fill(x, 1, 3, 0, 0, 0);
     due("height(0, 1, 3)", x.height(0, 1, 3), 6);
     due("height(1, 0, 1)", x.height(1, 0, 1), -2);
     due("height(0, 0, 1), each bound", x.height(0, 0, 1), 2);
@@ -440,10 +420,10 @@ public final class PromisesTest {
   }
 
   private static void promise16Load() {
-    HeapMover x = line(4, 1);
+    HeapMover x = Worlds.line(4, 1);
     x.road(0, 2, 2);
-    fill(x, 0, 5, 0, 0, 2);
-    fill(x, 1, 0, 1, 4, 2);
+    Worlds.fill(x, 0, 5, 0, 0, 2);
+    Worlds.fill(x, 1, 0, 1, 4, 2);
     due("load(0, 1)", x.load(0, 1, 0, 1), 5);
     due("load(1, 2)", x.load(0, 1, 1, 2), 4);
     due("load(2, 1)", x.load(0, 1, 2, 1), 0);
@@ -462,10 +442,10 @@ public final class PromisesTest {
   }
 
   private static void promise17Far() {
-    HeapMover x = line(4, 1);
+    HeapMover x = Worlds.line(4, 1);
     due("far of nothing", x.far(0, 1), 0);
-    fill(x, 0, 2, 1, 0, 0);
-    fill(x, 1, 0, 1, 1, 1);
+    Worlds.fill(x, 0, 2, 1, 0, 0);
+    Worlds.fill(x, 1, 0, 1, 1, 1);
     due("far(0, 1)", x.far(0, 1), 2);
     due("far(1, 0)", x.far(1, 0), 2);
     due("far(1, 1)", x.far(1, 1), 0);
@@ -477,24 +457,24 @@ public final class PromisesTest {
     due("far of other sums", x.far(0, 1), NOT);
     x.place();
     due("far, not joined", x.far(0, 0), NOT);
-    HeapMover y = line(10, 1);
-    fill(y, 0, 1, 1, 1, 1, 1, 1, 1, 1, 1, 1000);
-    fill(y, 1, 1000, 1, 1, 1, 1, 1, 1, 1, 1, 1);
+    HeapMover y = Worlds.line(10, 1);
+    Worlds.fill(y, 0, 1, 1, 1, 1, 1, 1, 1, 1, 1, 1000);
+    Worlds.fill(y, 1, 1000, 1, 1, 1, 1, 1, 1, 1, 1, 1);
     due("far, every pair used", y.far(0, 1), 9);
     due("shown, every pair used", y.shown(0, 1, 9), 1);
   }
 
   private static void promise18Shown() {
-    HeapMover x = line(4, 1);
+    HeapMover x = Worlds.line(4, 1);
     due("shown of nothing", x.shown(0, 1, 0), 0);
-    fill(x, 0, 2, 1, 0, 0);
-    fill(x, 1, 0, 1, 1, 1);
+    Worlds.fill(x, 0, 2, 1, 0, 0);
+    Worlds.fill(x, 1, 0, 1, 1, 1);
     // Far is 2: of {0} short is 2 - 1, of {0, 1} it is 3 - 2; the least set is {0}.
     int[] want = {1, 0, 0, 0};
     for (int v = 0; v < 4; v++) {
       due("shown(0, 1, " + v + ")", x.shown(0, 1, v), want[v]);
     }
-    fill(x, 0, 1, 2, 0, 0);
+    Worlds.fill(x, 0, 1, 2, 0, 0);
     // Of {0} short is 1 - 1, of {0, 1} it is 3 - 2, of {1} it is 2 - 2.
     want = new int[] {1, 1, 0, 0};
     for (int v = 0; v < 4; v++) {
@@ -510,9 +490,9 @@ public final class PromisesTest {
   }
 
   private static void promise19Some() {
-    HeapMover x = line(4, 2);
-    fill(x, 0, 3, 2, 0, 0);
-    fill(x, 1, 0, 1, 0, 2);
+    HeapMover x = Worlds.line(4, 2);
+    Worlds.fill(x, 0, 3, 2, 0, 0);
+    Worlds.fill(x, 1, 0, 1, 0, 2);
     int[] want = {0, 0, 4, 10};
     for (int m = 0; m < 4; m++) {
       due("some(0, 1, " + m + ")", x.some(0, 1, m), want[m]);
@@ -530,10 +510,10 @@ public final class PromisesTest {
   }
 
   private static void promise20Gated() {
-    HeapMover x = line(3, 1);
+    HeapMover x = Worlds.line(3, 1);
     x.road(0, 2, 10);
-    fill(x, 0, 4, 0, 0);
-    fill(x, 1, 0, 0, 4);
+    Worlds.fill(x, 0, 4, 0, 0);
+    Worlds.fill(x, 1, 0, 0, 4);
     due("gated without gates", x.gated(0, 1), 8);
     x.gate(1, 3);
     due("gated, one goes around", x.gated(0, 1), 3 * 2 + 10);
@@ -560,15 +540,15 @@ public final class PromisesTest {
   }
 
   private static int gatesAndLeast() {
-    HeapMover x = line(3, 1);
-    fill(x, 0, 4, 0, 0);
-    fill(x, 1, 0, 0, 4);
+    HeapMover x = Worlds.line(3, 1);
+    Worlds.fill(x, 0, 4, 0, 0);
+    Worlds.fill(x, 1, 0, 0, 4);
     x.gate(1, 0);
     return x.least(0, 1);
   }
 
   private static void promise21Draft() {
-    HeapMover x = line(2, 1);
+    HeapMover x = Worlds.line(2, 1);
     int changes = x.count(4);
     due("draft", x.draft(0, 1, 10000), 0);
     due("draft again", x.draft(0, 1, 5), 10000);
@@ -583,7 +563,7 @@ public final class PromisesTest {
   }
 
   private static void promise22Clear() {
-    HeapMover x = line(3, 1);
+    HeapMover x = Worlds.line(3, 1);
     due("clear() of nothing", x.clear(), 0);
     x.draft(0, 1, 4);
     x.draft(2, 2, 1);
@@ -596,9 +576,9 @@ public final class PromisesTest {
   }
 
   private static void promise23Copy() {
-    HeapMover x = line(3, 1);
-    fill(x, 0, 2, 1, 0);
-    fill(x, 1, 1, 1, 1);
+    HeapMover x = Worlds.line(3, 1);
+    Worlds.fill(x, 0, 2, 1, 0);
+    Worlds.fill(x, 1, 1, 1, 1);
     x.draft(2, 0, 9);
     due("copy", x.copy(0, 1), 3);
     due("draft(2, 0) is gone", x.draft(2, 0, 0), 0);
@@ -615,9 +595,9 @@ public final class PromisesTest {
   }
 
   private static void promise24Judge() {
-    HeapMover x = line(3, 2);
-    fill(x, 0, 2, 1, 0);
-    fill(x, 1, 1, 1, 1);
+    HeapMover x = Worlds.line(3, 2);
+    Worlds.fill(x, 0, 2, 1, 0);
+    Worlds.fill(x, 1, 1, 1, 1);
     due("judge of nothing", x.judge(0, 1), 1);
     due("beside()", x.beside(), 0);
     x.draft(0, 0, 2);
@@ -654,10 +634,10 @@ public final class PromisesTest {
   }
 
   private static void promise25Beside() {
-    HeapMover x = line(3, 5);
+    HeapMover x = Worlds.line(3, 5);
     due("beside() without judge", x.beside(), 0);
-    fill(x, 0, 0, 3, 0);
-    fill(x, 1, 0, 0, 3);
+    Worlds.fill(x, 0, 0, 3, 0);
+    Worlds.fill(x, 1, 0, 0, 3);
     due("judge", x.judge(0, 1), 1);
     due("beside()", x.beside(), 1);
     due("judge refused", x.judge(0, 5), UNKNOWN);
@@ -673,7 +653,7 @@ public final class PromisesTest {
   }
 
   private static void promise26Count() {
-    HeapMover x = line(4, 1);
+    HeapMover x = Worlds.line(4, 1);
     x.gate(2, 0);
     x.gate(3, 9);
     x.set(1, 1, 5);
