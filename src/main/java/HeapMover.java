@@ -987,7 +987,7 @@ public final class HeapMover {
   /** How far some goods must go at least, and the places that show it. */
   private static final class Reach {
     int farthest;
-    
+
     /** 1 for a place that is shown, else 0. */
     final int[] stuck = new int[MOST_PLACES];
     private final Network network = new Network();

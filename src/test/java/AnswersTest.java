@@ -340,8 +340,9 @@ public final class AnswersTest {
     due("far, the road went", x.far(0, 1), 9000);
     x.heap();
     x.set(2, 8, 1000);
-    due("far to another heap", x.far(0, 2), 1000);
     due("far from another heap", x.far(2, 1), 8000);
+    due("far as before", x.far(0, 1), 9000);
+    due("far to another heap", x.far(0, 2), 1000);
     due("far as before", x.far(0, 1), 9000);
   }
 
@@ -365,7 +366,8 @@ public final class AnswersTest {
     x.heap();
     x.set(2, 0, 1000);
     due("shown(2, 1, 0), from another heap", x.shown(2, 1, 0), 1);
-    due("shown(0, 2, 0), to another heap", x.shown(0, 2, 0), 0);
+    due("shown(0, 1, 9), as before", x.shown(0, 1, 9), 1);
+    due("shown(0, 0, 9), to another heap", x.shown(0, 0, 9), 0);
     due("shown(0, 1, 9), as before", x.shown(0, 1, 9), 1);
   }
 

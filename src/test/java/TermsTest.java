@@ -487,6 +487,9 @@ public final class TermsTest {
     Worlds.fill(y, 0, 2, 2, 2, 0);
     Worlds.fill(y, 1, 0, 2, 2, 2);
     duePlan(y, new int[] {0, 2, 0, 0}, new int[] {0, 0, 2, 0}, new int[] {0, 0, 0, 2}, new int[4]);
+    Worlds.fill(y, 0, 0, 2, 2, 2);
+    Worlds.fill(y, 1, 2, 2, 2, 0);
+    duePlan(y, new int[4], new int[] {2, 0, 0, 0}, new int[] {0, 2, 0, 0}, new int[] {0, 0, 2, 0});
     // Only the last two rows leave a choice.
     HeapMover z = Worlds.net(6, new int[] {0, 1, 9}, new int[] {1, 2, 9}, new int[] {2, 4, 1},
         new int[] {2, 5, 1}, new int[] {3, 4, 1}, new int[] {3, 5, 1});
@@ -494,6 +497,18 @@ public final class TermsTest {
     Worlds.fill(z, 1, 0, 7, 0, 0, 1, 1);
     duePlan(z, new int[] {0, 7, 0, 0, 0, 0}, new int[6], new int[] {0, 0, 0, 0, 1, 0},
         new int[] {0, 0, 0, 0, 0, 1}, new int[6], new int[6]);
+    // From 2, 3, 4 to 0, 1, 2 three plans cost 3; in none of them 2's goes to 0.
+    HeapMover t = threeOfThree();
+    duePlan(t, new int[5], new int[5], new int[] {0, 1, 0, 0, 0}, new int[] {0, 0, 1, 0, 0},
+        new int[] {1, 0, 0, 0, 0});
+  }
+
+  private static HeapMover threeOfThree() {
+    HeapMover x = Worlds.net(5, new int[] {0, 1, 1}, new int[] {0, 2, 1}, new int[] {0, 3, 1},
+        new int[] {0, 4, 1}, new int[] {1, 2, 1}, new int[] {2, 3, 1});
+    Worlds.fill(x, 0, 0, 0, 1, 1, 1);
+    Worlds.fill(x, 1, 1, 1, 1, 0, 0);
+    return x;
   }
 
   /** Each even place has a road of 1 to each odd one, so that all plans between them cost the same. */
@@ -572,6 +587,14 @@ public final class TermsTest {
     Worlds.fill(z, 0, 1, 1, 0);
     Worlds.fill(z, 1, 1, 0, 1);
     due("alone, what lies at 0 may stay", z.alone(0, 1), 0);
+    due("alone, one of three", threeOfThree().alone(0, 1), 0);
+    HeapMover t = Worlds.net(4, new int[] {0, 1, 1}, new int[] {1, 2, 1}, new int[] {0, 3, 1});
+    Worlds.fill(t, 0, 0, 1, 1, 1);
+    Worlds.fill(t, 1, 1, 0, 1, 1);
+    due("alone, all but one stay", t.alone(0, 1), 1);
+    Worlds.fill(t, 0, 0, 2, 0, 1);
+    Worlds.fill(t, 1, 2, 0, 1, 0);
+    due("alone, each to the next place", t.alone(0, 1), 1);
     due("alone of ten places", evenAndOdd().alone(0, 1), 0);
     due("alone of ten places, one heap", evenAndOdd().alone(0, 0), 1);
   }
